@@ -499,6 +499,9 @@ public final class PromiseTests {
         PortraitRank shallow = of("P020002002002C293333");
         due("fewer layers beat a lesser number", shallow.strokes(0, 0), 1000);
         due("one layer", shallow.strokes(0, 1), 1);
+        PortraitRank lowest = of("P002000000000C092333");
+        due("both layers of finger 0", lowest.strokes(0, 0), 2000);
+        due("two", lowest.strokes(0, 1), 2);
     }
 
     private static void peace() {
@@ -781,22 +784,34 @@ public final class PromiseTests {
         int together = 0;
         int waiting = 0;
         long value = 0L;
-        for (int time = 0; time < 6; time++) {
-            value = value * 6364136223846793005L + 1442695040888963407L;
-            waiting = (value >>> 33) % 12 >= 8 ? 2 : waiting;
+        for (int time = 0; time < 30; time++) {
+            value = step(value);
+            if (drawnBy(value) >= 8) {
+                waiting = 1;
+            }
             together += waiting;
         }
-        due("six times", x.years(6), together);
-        due("six steps", x.seed(0L), value);
-        due("nobody came", x.about(1) + x.about(4) + x.about(5), 0);
+        PortraitRank faithful = of(FLAT + "C393333");
+        due("thirty times", faithful.years(30), together);
+        due("thirty steps", faithful.seed(0L), value);
+        due("nobody came", faithful.about(1) + faithful.about(4) + faithful.about(5), 0);
         yearsOneByOne();
+        yearsTwoByTwo();
+    }
+
+    private static long step(long value) {
+        return value * 6364136223846793005L + 1442695040888963407L;
+    }
+
+    private static long drawnBy(long value) {
+        return (value >>> 33) % 12;
     }
 
     /** Each draw by itself: seeds are looked for by which the first draw is the wanted one. */
     private static void yearsOneByOne() {
         for (int drawn = 0; drawn < 12; drawn++) {
             long start = 0L;
-            while (((start * 6364136223846793005L + 1442695040888963407L) >>> 33) % 12 != drawn) {
+            while (drawnBy(step(start)) != drawn) {
                 start++;
             }
             PortraitRank x = of("P010010010010C023333");
@@ -809,6 +824,27 @@ public final class PromiseTests {
             x.seed(start);
             due("who goes is not, draw " + drawn, x.years(1), drawn >= 8 ? 0 : 1);
             due("no layer goes off", x.finger(drawn % 4, 3), 0);
+        }
+    }
+
+    /** A draw of a finger and then one of a night: who comes tells which finger was cleaned or painted. */
+    private static void yearsTwoByTwo() {
+        for (int drawn = 0; drawn < 8; drawn++) {
+            long start = 0L;
+            while (drawnBy(step(start)) != drawn || drawnBy(step(step(start))) < 8) {
+                start++;
+            }
+            for (int finger = 0; finger < 4; finger++) {
+                String calls = "3333".substring(0, finger) + "1" + "333".substring(finger);
+                PortraitRank x = of("P010010010010C09" + calls);
+                x.seed(start);
+                due("cleaned by draw " + drawn, x.years(2), drawn == finger ? 1 : 0);
+                for (int other = 0; other < 4; other++) {
+                    x.clean(other);
+                }
+                x.seed(start);
+                due("painted by draw " + drawn, x.years(2), drawn == finger || drawn == finger + 4 ? 0 : 1);
+            }
         }
     }
 
