@@ -1,18 +1,7 @@
 import java.util.Arrays;
 
 /** For each promise of the document: ordinary inputs, edges and wrong inputs, with answers found by hand. */
-public final class PromiseTests {
-    private static final int UNKNOWN = -1, BAD = -2, LATE = -3, FULL = -4, NONE = -9;
-    private static final int[] WILD = {-1, Integer.MIN_VALUE, Integer.MAX_VALUE, -9, 1 << 30};
-
-    /** The fingers show UP, DOWN, POINTING, UP at first. */
-    private static final String HAND = "P120012201120";
-    private static final String FLAT = "P000000000000";
-    private static final String FIVE = FLAT + "C013333C023333C033333C043333C053333";
-
-    private static int wrong = 0;
-    private static int asked = 0;
-
+public final class PromiseTests extends Bench {
     public static void main(String[] args) {
         newObject();
         write();
@@ -49,58 +38,7 @@ public final class PromiseTests {
         again();
         askingChangesNothing();
         refusedChangesNothing();
-        System.out.println(asked + " answers looked at, " + wrong + " wrong");
-        if (wrong != 0) {
-            System.exit(1);
-        }
-    }
-
-    private static void due(String what, long got, long want) {
-        asked++;
-        if (got != want) {
-            wrong++;
-            System.out.println(what + " answered " + got + ", due is " + want);
-        }
-    }
-
-    private static void tell(PortraitRank x, String text) {
-        x.wipe();
-        for (int i = 0; i < text.length(); i++) {
-            x.write(text.charAt(i));
-        }
-    }
-
-    private static PortraitRank of(String text) {
-        PortraitRank x = new PortraitRank();
-        tell(x, text);
-        due("hall of " + text, x.hall(), (text.length() - 13) / 7);
-        return x;
-    }
-
-    private static int faultOf(String text) {
-        PortraitRank x = new PortraitRank();
-        tell(x, text);
-        return x.fault();
-    }
-
-    /** All that can be asked of what stands, but for the seed and what is kept. */
-    private static String stateOf(PortraitRank x) {
-        StringBuilder state = new StringBuilder();
-        for (int what = 0; what < 8; what++) {
-            state.append(x.about(what)).append(' ');
-        }
-        for (int finger = 0; finger < 4; finger++) {
-            for (int what = 0; what < 5; what++) {
-                state.append(x.finger(finger, what)).append(' ');
-            }
-            state.append(x.under(finger, 0)).append(' ').append(x.under(finger, 1)).append(' ');
-        }
-        for (int cabman = 0; cabman < 5; cabman++) {
-            for (int what = 0; what < 7; what++) {
-                state.append(x.cabman(cabman, what)).append(' ');
-            }
-        }
-        return state.append(x.fault()).toString();
+        end();
     }
 
     private static void newObject() {
@@ -375,22 +313,22 @@ public final class PromiseTests {
     private static void undo() {
         PortraitRank x = of("P010000000000C013333C053333C390333");
         String[] states = new String[8];
-        states[0] = stateOf(x);
+        states[0] = sceneOf(x);
         x.night();
-        states[1] = stateOf(x);
+        states[1] = sceneOf(x);
         x.clean(0);
-        states[2] = stateOf(x);
+        states[2] = sceneOf(x);
         x.night();
-        states[3] = stateOf(x);
+        states[3] = sceneOf(x);
         x.send();
-        states[4] = stateOf(x);
+        states[4] = sceneOf(x);
         x.paint(0);
-        states[5] = stateOf(x);
+        states[5] = sceneOf(x);
         x.night();
-        states[6] = stateOf(x);
+        states[6] = sceneOf(x);
         for (int left = 5; left >= 0; left--) {
             due("undo", x.undo(), left);
-            due("as it was with " + left + " acts", stateOf(x).equals(states[left]) ? 1 : 0, 1);
+            due("as it was with " + left + " acts", sceneOf(x).equals(states[left]) ? 1 : 0, 1);
         }
         due("nothing left", x.undo(), LATE);
         for (int night = 1; night <= 20; night++) {
@@ -593,11 +531,6 @@ public final class PromiseTests {
         x.clean(1);
         due("from what stands", x.judge(3, 302111), NONE);
         due("two more are too many", x.judge(2, 1111), 1);
-    }
-
-    private static void fraction(String what, int got, int gotBelow, int above, int below) {
-        due(what + " above", got, above);
-        due(what + " below", gotBelow, below);
     }
 
     private static void share() {
