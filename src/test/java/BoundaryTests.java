@@ -29,6 +29,7 @@ public final class BoundaryTests extends Bench {
         everyActIsForgotten();
         actsBehindUndo();
         cleaningsFromEveryState();
+        everyCleaningIsFound();
         best();
         bestOfLikeOnes();
         strokes();
@@ -43,6 +44,8 @@ public final class BoundaryTests extends Bench {
         seenOfCabmenThatAreNot();
         underEveryRow();
         underNone();
+        underByFinger();
+        underAsTheyAreNow();
         rests();
         wet();
         seed();
@@ -575,6 +578,25 @@ public final class BoundaryTests extends Bench {
         return bits;
     }
 
+    private static void everyCleaningIsFound() {
+        sentence("BEST and STROKES look at each CLEANING that can be, and at no other");
+        for (int index = 0; index < 81; index++) {
+            String hand = four(index, 3);
+            int layers = hand.chars().map(figure -> figure - '0').sum();
+            for (int state = 0; state < 81; state++) {
+                String off = four(state, 3);
+                PortraitRank x = offBy(off, new String[] {hand});
+                int more = Integer.parseInt(hand) - Integer.parseInt(off);
+                int fewer = layers - off.chars().map(figure -> figure - '0').sum();
+                boolean can = dueBy(off, more, new String[] {hand}) == 1;
+                due("strokes to " + hand + " from " + off, x.strokes(0, 0), can ? more : NONE);
+                due("layers to " + hand + " from " + off, x.strokes(0, 1), can ? fewer : NONE);
+                due("best to " + hand + " from " + off, x.best(0), can ? more : 0);
+                due("how many by " + hand + " from " + off, x.best(1), can ? 1 : 0);
+            }
+        }
+    }
+
     private static void best() {
         sentence("BEST: the CLEANING by which most are called");
         PortraitRank nobody = of(COUNTING);
@@ -920,6 +942,45 @@ public final class BoundaryTests extends Bench {
         x.unsee();
         due("all again", x.under(0, 0), 27);
         due("the least", x.under(0, 1), 0);
+    }
+
+    private static void underByFinger() {
+        sentence("UNDER: all that is SEEN with it, whatever else is SEEN ahead of it");
+        PortraitRank x = of(FLAT + "C090033C091133C093333");
+        x.see(2, 1, 0, 0);
+        x.see(0, 0, 0, 1);
+        due("what is SEEN with another finger is not looked at", x.under(0, 0), 9);
+        due("that other finger", x.under(1, 0), 0);
+        x.see(2, 0, 0, 0);
+        due("one who always comes did not", x.under(0, 0), 0);
+        tell(x, FLAT + "C090033");
+        x.hall();
+        x.see(0, 0, 1, 1);
+        due("nor is one of a cabman that is not any more", x.under(0, 0), 3);
+        due("nor with the other finger", x.under(1, 0), 27);
+    }
+
+    private static void underAsTheyAreNow() {
+        sentence("SEEN: all others of FINGERS as they are now, whatever was asked just before");
+        PortraitRank x = of(COUNTING + "C093000C093222");
+        x.see(0, 0, 0, 1);
+        due("by a cleaning others would not agree", x.call(222), 2);
+        due("they do now", x.under(0, 0), 27);
+        for (int stroke = 0; stroke < 6; stroke++) {
+            x.clean(1 + stroke % 3);
+        }
+        due("they do not now", x.under(0, 0), 0);
+        x.unsee();
+        x.see(1, 0, 0, 1);
+        x.share(3, true);
+        due("others do now", x.under(0, 0), 27);
+        x.paint(3);
+        due("one does not now", x.under(0, 0), 0);
+        x.undo();
+        due("undone, it does again", x.under(0, 0), 27);
+        x.clean(0);
+        x.clean(0);
+        due("what is off that finger itself is set aside", x.under(0, 0), 27);
     }
 
     private static void rests() {
