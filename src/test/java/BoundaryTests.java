@@ -34,6 +34,7 @@ public final class BoundaryTests extends Bench {
         bestOfLikeOnes();
         strokes();
         peace();
+        calledThoughTheyWait();
         givesUp();
         longest();
         judgedPairs();
@@ -697,6 +698,36 @@ public final class BoundaryTests extends Bench {
         due("1000 has fewer layers than 2", fewest.peace(0), 1000);
         due("nobody", of(COUNTING).peace(0), 0);
         due("layers", of(COUNTING).peace(1), 0);
+    }
+
+    private static void calledThoughTheyWait() {
+        sentence("who is called is asked, whether it WAITS already or not");
+        PortraitRank x = of("P010000000000C393333C390333C390333C391333");
+        for (int night = 0; night < 3; night++) {
+            due("called", x.about(3), 7);
+            due("call", x.call(0), 7);
+            due("call by a layer", x.call(1000), 9);
+            due("best", x.best(0), 0);
+            due("how many", x.best(1), 3);
+            for (int cabman = 0; cabman < 4; cabman++) {
+                due("strokes", x.strokes(cabman, 0), cabman == 3 ? 1000 : 0);
+            }
+            due("peace", x.peace(0), NONE);
+            fraction("share", x.share(3, true), x.share(3, false), 3, 4);
+            fraction("wet", x.wet(3, 10, true), x.wet(3, 10, false), 1, 1);
+            fraction("wet by 5", x.wet(3, 5, true), x.wet(3, 5, false), 1, 8);
+            due("all that are called come, or wait", x.night(), 3);
+        }
+        PortraitRank leaving = of("P010000000000C090333");
+        leaving.night();
+        leaving.clean(0);
+        due("it waits", leaving.about(1), 1);
+        due("it is not called", leaving.about(3), 0);
+        due("so there is peace", leaving.peace(0), 0);
+        due("best", leaving.best(1), 1);
+        due("by one more layer, where it is DOWN again", leaving.best(0), 1000);
+        fraction("wet", leaving.wet(1, 10, true), leaving.wet(1, 10, false), 0, 1);
+        fraction("share", leaving.share(0, true), leaving.share(0, false), 0, 1);
     }
 
     private static void givesUp() {

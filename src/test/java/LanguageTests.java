@@ -15,6 +15,7 @@ import java.util.regex.Pattern;
 /** What LANGUAGE.md asks of the file and can be looked at from outside; the rules by their numbers. */
 public final class LanguageTests {
     private static final Path SOURCE = Path.of("src/main/java/PortraitRank.java");
+    private static final Path DOCUMENT = Path.of("../shared/DOC.md");
     private static final String FACE = """
         int about(int)
         int again(int)
@@ -52,6 +53,7 @@ public final class LanguageTests {
 
     public static void main(String[] args) throws Exception {
         face();
+        faceOfTheDocument();
         constants();
         nestedClasses();
         staticFields();
@@ -84,6 +86,9 @@ public final class LanguageTests {
             && Modifier.isFinal(PortraitRank.class.getModifiers()));
         hold("1: one public constructor", PortraitRank.class.getDeclaredConstructors().length == 1
             && PortraitRank.class.getConstructors().length == 1);
+        hold("1: it has no argument", PortraitRank.class.getConstructors()[0].getParameterCount() == 0);
+        hold("1: nothing comes from above", PortraitRank.class.getSuperclass() == Object.class
+            && PortraitRank.class.getInterfaces().length == 0);
         TreeSet<String> methods = new TreeSet<>();
         for (Method method : PortraitRank.class.getDeclaredMethods()) {
             if (!Modifier.isPrivate(method.getModifiers())) {
@@ -102,6 +107,17 @@ public final class LanguageTests {
                 hold("11: parameters of " + method, method.getParameterCount() <= 7);
             }
         }
+    }
+
+    /** That FACE is not only like the class, but was copied well. */
+    private static void faceOfTheDocument() throws Exception {
+        TreeSet<String> told = new TreeSet<>();
+        Matcher heads = Pattern.compile("(?m)^ {4}public (int|long) (\\w+)\\((.*)\\);$").matcher(Files.readString(DOCUMENT));
+        while (heads.find()) {
+            String types = heads.group(3).replaceAll("(\\w+) \\w+", "$1").replace(" ", "");
+            told.add(heads.group(1) + " " + heads.group(2) + "(" + types + ")");
+        }
+        hold("1: the document tells this face: " + told, told.equals(new TreeSet<>(FACE.lines().toList())));
     }
 
     private static void constants() throws IllegalAccessException {

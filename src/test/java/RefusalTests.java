@@ -4,8 +4,8 @@
  */
 public final class RefusalTests extends Bench {
     public static void main(String[] args) {
-        for (Where where : new Where[] {new Where("new", RefusalTests::fresh, 0, 0, 0),
-            new Where("busy", RefusalTests::busy, 3, 27, 2), new Where("full", RefusalTests::full, 5, 48, 6)}) {
+        for (Where where : new Where[] {new Where("new", PortraitRank::new, 0, 0, 0),
+            new Where("busy", Bench::someOfAll, 3, 27, 2), new Where("full", Bench::allFull, 5, 48, 6)}) {
             theHall(where);
             acts(where);
             calls(where);
@@ -25,47 +25,6 @@ public final class RefusalTests extends Bench {
 
     /** A state that can be made as often as wanted, and how many there are in it. */
     private record Where(String name, Make make, int cabmen, int bytes, int seen) { }
-
-    private static PortraitRank fresh() {
-        return new PortraitRank();
-    }
-
-    /** Some of all, nothing full: a slot is kept, the other is not; the text is another hall than the one that stands. */
-    private static PortraitRank busy() {
-        PortraitRank x = of("P012120201012C023123C121033C343333");
-        x.night();
-        x.clean(2);
-        x.see(0, 1, 1, 1);
-        x.see(2, 2, 0, 0);
-        x.night();
-        x.keep(0);
-        x.night();
-        x.clean(0);
-        x.seed(12345L);
-        tell(x, HAND + "C093333C191021");
-        return x;
-    }
-
-    /** All is full: text, acts (some are forgotten), seen, slots; finger 0 has no layer more to lose, 1 none to gain. */
-    private static PortraitRank full() {
-        PortraitRank x = of("P012120201012C023123C121033C230332C343333C023333");
-        for (int count = 0; count < 6; count++) {
-            x.see(count % 5, count % 4, count % 3, count % 2);
-        }
-        x.keep(1);
-        x.clean(0);
-        x.clean(0);
-        nights(x, 3);
-        x.clean(3);
-        x.keep(0);
-        nights(x, 5);
-        x.send();
-        x.paint(3);
-        nights(x, 5);
-        x.seed(-1L);
-        tell(x, HAND + "C011021C123333C233333C343333C090123");
-        return x;
-    }
 
     private static void theHall(Where in) {
         sentence("promise 2, " + in.name());
@@ -256,11 +215,11 @@ public final class RefusalTests extends Bench {
             String text = whole.substring(0, place) + 'x' + whole.substring(place + 1);
             refused("hall with a fault at " + place, () -> withText(text), x -> x.hall(), LATE);
         }
-        refused("hall of a new object", RefusalTests::fresh, x -> x.hall(), LATE);
+        refused("hall of a new object", PortraitRank::new, x -> x.hall(), LATE);
     }
 
     private static PortraitRank withText(String text) {
-        PortraitRank x = busy();
+        PortraitRank x = someOfAll();
         tell(x, text);
         return x;
     }
@@ -278,11 +237,11 @@ public final class RefusalTests extends Bench {
             };
             refused("clean " + one, twice, x -> x.clean(one), LATE);
         }
-        refused("clean with acts full", RefusalTests::full, x -> x.clean(0), LATE);
+        refused("clean with acts full", Bench::allFull, x -> x.clean(0), LATE);
         sentence("promise 11, LATE: none is off");
         for (int finger = 0; finger < 4; finger++) {
             int one = finger;
-            refused("paint " + one + " of a new object", RefusalTests::fresh, x -> x.paint(one), LATE);
+            refused("paint " + one + " of a new object", PortraitRank::new, x -> x.paint(one), LATE);
             Make others = () -> {
                 PortraitRank x = of(HAND + "C093333");
                 for (int other = 0; other < 4; other++) {
@@ -293,13 +252,13 @@ public final class RefusalTests extends Bench {
             };
             refused("paint " + one + " where others are off", others, x -> x.paint(one), LATE);
         }
-        refused("paint with acts full", RefusalTests::full, x -> x.paint(1), LATE);
+        refused("paint with acts full", Bench::allFull, x -> x.paint(1), LATE);
         sentence("promise 12, LATE: nobody WAITS");
-        refused("send of a new object", RefusalTests::fresh, x -> x.send(), LATE);
+        refused("send of a new object", PortraitRank::new, x -> x.send(), LATE);
         refused("send before the first night", () -> of(FIVE), x -> x.send(), LATE);
         refused("send with acts full", RefusalTests::manyNightsOfNobody, x -> x.send(), LATE);
         sentence("promise 13, LATE: there is none");
-        refused("undo of a new object", RefusalTests::fresh, x -> x.undo(), LATE);
+        refused("undo of a new object", PortraitRank::new, x -> x.undo(), LATE);
         refused("undo of a new hall", () -> of(FIVE), x -> x.undo(), LATE);
         refused("undo once too often", RefusalTests::allUndone, x -> x.undo(), LATE);
         refused("undo when one goes on", RefusalTests::goneOn, x -> x.undo(), LATE);
@@ -321,7 +280,7 @@ public final class RefusalTests extends Bench {
     }
 
     private static PortraitRank goneOn() {
-        PortraitRank x = busy();
+        PortraitRank x = someOfAll();
         x.again(0);
         return x;
     }
@@ -350,9 +309,9 @@ public final class RefusalTests extends Bench {
 
     private static void lateSlots() {
         sentence("promise 30, LATE: none were kept");
-        refused("again 0 of a new object", RefusalTests::fresh, x -> x.again(0), LATE);
-        refused("again 1 of a new object", RefusalTests::fresh, x -> x.again(1), LATE);
-        refused("again 1 where 0 is kept", RefusalTests::busy, x -> x.again(1), LATE);
+        refused("again 0 of a new object", PortraitRank::new, x -> x.again(0), LATE);
+        refused("again 1 of a new object", PortraitRank::new, x -> x.again(1), LATE);
+        refused("again 1 where 0 is kept", Bench::someOfAll, x -> x.again(1), LATE);
         Make other = () -> {
             PortraitRank x = of(FIVE);
             x.night();
@@ -362,14 +321,14 @@ public final class RefusalTests extends Bench {
         refused("again 0 where 1 is kept", other, x -> x.again(0), LATE);
         sentence("promise 5, what was kept is gone");
         Make anew = () -> {
-            PortraitRank x = full();
+            PortraitRank x = allFull();
             x.hall();
             return x;
         };
         refused("again 0 of a hall made anew", anew, x -> x.again(0), LATE);
         refused("again 1 of a hall made anew", anew, x -> x.again(1), LATE);
         Make refusedHall = () -> {
-            PortraitRank x = full();
+            PortraitRank x = allFull();
             x.wipe();
             x.hall();
             return x;
@@ -381,8 +340,8 @@ public final class RefusalTests extends Bench {
     /** Where more than one thing is wrong. */
     private static void ofSeveral() {
         sentence("Of several what is told first");
-        Make full = RefusalTests::full;
-        Make fresh = RefusalTests::fresh;
+        Make full = Bench::allFull;
+        Make fresh = PortraitRank::new;
         refused("write, bad and full", full, x -> x.write(256), BAD);
         refused("write, negative and full", full, x -> x.write(-1), BAD);
         for (int bad : WILD) {

@@ -91,6 +91,43 @@ class Bench {
         return x.fault();
     }
 
+    /** Some of all, nothing full: a slot is kept, the other is not; the text is another hall than the one that stands. */
+    static PortraitRank someOfAll() {
+        PortraitRank x = of("P012120201012C023123C121033C343333");
+        x.night();
+        x.clean(2);
+        x.see(0, 1, 1, 1);
+        x.see(2, 2, 0, 0);
+        x.night();
+        x.keep(0);
+        x.night();
+        x.clean(0);
+        x.seed(12345L);
+        tell(x, HAND + "C093333C191021");
+        return x;
+    }
+
+    /** All is full: text, acts (some are forgotten), seen, slots; finger 0 has no layer more to lose, 1 none to gain. */
+    static PortraitRank allFull() {
+        PortraitRank x = of("P012120201012C023123C121033C230332C343333C023333");
+        for (int count = 0; count < 6; count++) {
+            x.see(count % 5, count % 4, count % 3, count % 2);
+        }
+        x.keep(1);
+        x.clean(0);
+        x.clean(0);
+        nights(x, 3);
+        x.clean(3);
+        x.keep(0);
+        nights(x, 5);
+        x.send();
+        x.paint(3);
+        nights(x, 5);
+        x.seed(-1L);
+        tell(x, HAND + "C011021C123333C233333C343333C090123");
+        return x;
+    }
+
     /** All that can be asked of what stands, but for the seed, what can be undone and what is kept. */
     static String stateOf(PortraitRank x) {
         StringBuilder state = new StringBuilder();
